@@ -33,8 +33,8 @@ public final class LakeBins {
     private final Lake[] markedLakes = new Lake[MARKS];
     private final Found[] markedFinds = new Found[MARKS];
     private int marksLaid;
-    private final Trials trials = new Trials(now);
-    private final Search search = new Search(now, trials);
+    private final Trials trials = new Trials(now, plan);
+    private final Search search = new Search(now, plan, trials);
 
     public LakeBins() {
         for (int i = 0; i < MARKS; i++) {
@@ -581,7 +581,7 @@ public final class LakeBins {
         }
 
         /** Reads an E that lies within so many of not and ( ). */
-        boolean readTests(Tape tape, int within) {
+        private boolean readTests(Tape tape, int within) {
             if (!readTest(tape, within)) {
                 return false;
             }
@@ -1278,8 +1278,9 @@ public final class LakeBins {
         int firstLittering;
         int liesAtLast;
 
-        Trials(Lake now) {
+        Trials(Lake now, Plan plan) {
             this.now = now;
+            this.plan = plan;
         }
 
         void use(Plan told) {
@@ -1446,21 +1447,24 @@ public final class LakeBins {
     /** The best of many trials, and who or which yard they tell apart. */
     private static final class Search {
         static final int MOST_ROUNDS = 6;
+        /** Six people or six rounds, and the start. */
+        static final int DEPTHS = 7;
         static final int ABOVE_ALL = MOST_YARDS * MOST_HEAP + 1;
 
         private final Lake now;
         private final Trials trials;
         private Plan plan;
         /** One for each depth of a search, the one at depth 0 being what it starts from. */
-        private final Lake[] depths = new Lake[Math.max(MOST_PEOPLE, MOST_ROUNDS) + 1];
+        private final Lake[] depths = new Lake[DEPTHS];
         private final int[] row = new int[MOST_PEOPLE];
         final int[] bestRow = new int[MOST_PEOPLE];
         private final int[][] changes = new int[MOST_PEOPLE][MOST_YARDS];
         int least;
         int bestSet;
 
-        Search(Lake now, Trials trials) {
+        Search(Lake now, Plan plan, Trials trials) {
             this.now = now;
+            this.plan = plan;
             this.trials = trials;
             for (int i = 0; i < depths.length; i++) {
                 depths[i] = new Lake();
@@ -1537,7 +1541,7 @@ public final class LakeBins {
         }
 
         /** Rows come by their order, so that a later one must be better. */
-        void tryOrders(int depth, int gone) {
+        private void tryOrders(int depth, int gone) {
             if (depth >= plan.people || depth + 1 >= depths.length) {
                 offerRow(depths[depth].total());
                 return;
@@ -1561,7 +1565,7 @@ public final class LakeBins {
             }
         }
 
-        void tryRounds(int depth, int hours, int timesLeft, int set) {
+        private void tryRounds(int depth, int hours, int timesLeft, int set) {
             if (depth >= hours || depth + 1 >= depths.length) {
                 offerSet(depths[depth].total(), set);
                 return;

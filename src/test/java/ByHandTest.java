@@ -325,6 +325,14 @@ public final class ByHandTest {
         for (int what = 0; what < other.length; what++) {
             Due.due("other, count " + what, lake.count(what), other[what]);
         }
+        lake.find(0, lake.leaves(0, 0));
+        lake.find(1, lake.leaves(0, 1));
+        lake.mark(1, false);
+        lake.find(0, 99);
+        Due.due("nobody", lake.who(), 0);
+        lake.mark(1, true);
+        Due.due("as it was found", lake.who(), 1);
+        Due.due("back", lake.mark(0, true), true);
         lake.sweep(0);
         Due.due("again", lake.mark(0, true), true);
         Due.due("laid anew", lake.mark(3, false), true);

@@ -61,6 +61,11 @@ public final class ReadingTest {
         Due.due("fault", Due.path(lake, "yards"), 1 + 16 * 5);
         Due.due("tape behind a fault", lake.count(12), 0);
         Due.due("feed anew", Due.feed(lake, "hour;"), 5);
+        lake.path();
+        Due.path(lake, "yards 00000 yardsyards");
+        Due.due("what stood there ahead is gone", Due.path(lake, "yards 9"), 4 + 16 * 6);
+        Due.due("is gone", Due.path(lake, "pence 3;yards 9"), 4 + 16 * 14);
+        Due.due("is gone", Due.path(lake, "yards 3;person"), 1 + 16 * 14);
     }
 
     private static void tokens() {
@@ -89,6 +94,8 @@ public final class ReadingTest {
         faultOfPath("yards 9;", 4, 6);
         faultOfPath("yards x;", 1, 6);
         faultOfPath("yards 3; yards 3;", 3, 9);
+        faultOfPath("yards 3; pence 1; deposit 1; winds 1; drops 1; takes 1; yards", 3, 56);
+        faultOfPath("yards 3; pence 1; deposit 1; winds 1; drops 1; takes 1; winds", 3, 56);
         faultOfPath("bin 0 holds 30; bin 7 holds 1;", 0, 0);
         faultOfPath("bin 8 holds 0;", 4, 4);
         faultOfPath("bin 0 holds 31;", 4, 12);
@@ -99,6 +106,8 @@ public final class ReadingTest {
         faultOfPath("lies 0 100;", 4, 7);
         faultOfPath("lies 8 1;", 4, 5);
         faultOfPath("lies 2 0; lies 2 0;", 3, 15);
+        faultOfPath("lies 2 0; lies 3 0; lies 2 0;", 3, 25);
+        faultOfPath("bin 2 holds 1; bin 3 holds 1; bin 2 holds 1;", 3, 34);
         faultOfPath("lies 2;", 1, 6);
         faultOfPath("winds 0 1 2 0 1 2 0 1 2 0 1 2;", 0, 0);
         faultOfPath("winds 0 1 2 0 1 2 0 1 2 0 1 2 0;", 5, 30);
@@ -128,6 +137,7 @@ public final class ReadingTest {
         faultOfPath("person a plain brings 9 carries 9;", 1, 15);
         faultOfPath("person a plain carries 9 holds 9;", 1, 25);
         faultOfPath("person 3 plain", 1, 7);
+        faultOfPath("person ;", 1, 7);
         for (String word : ("yards person carries brings bin holds lies winds pence deposit drops takes walk empty"
                 + " put off sweep hour plain tidy dog child not and or").split(" ")) {
             faultOfPath("person " + word + " plain carries 1 brings 1;", 1, 7);

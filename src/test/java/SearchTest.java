@@ -36,6 +36,19 @@ public final class SearchTest {
             Due.due("what " + number, lake.place(1, 5, number), -1);
         }
         Due.due("5 bins", lake.place(5, 5, 0), -1);
+        lake = Due.told("yards 2; person a plain carries 0 brings 9; drops has; lies 0 99; lies 1 99; winds 1;");
+        for (int i = 0; i < 100; i++) {
+            lake.walk(0);
+        }
+        lake.hour();
+        for (int i = 0; i < 56; i++) {
+            lake.walk(0);
+        }
+        Due.due("much lies", lake.lies(), 999 + 598);
+        Due.due("much lies by place", lake.place(0, 1, 0), 999 + 598);
+        Due.due("much lies by order", lake.order(-1), 999 + 598);
+        Due.due("the order", lake.order(0), 0);
+        Due.due("much lies by rounds", lake.rounds(1, 1, 0), 999 - 499 + 999);
         Due.due("holds 0", lake.place(1, 0, 0), -1);
         Due.due("what 2", lake.place(1, 5, 2), -1);
     }
