@@ -62,6 +62,45 @@ final class Due {
         return lake;
     }
 
+    /** The fault that is due of a text in which ^ stands ahead of the wrong token; kind 0: no fault. */
+    private static int faultOf(int kind, String marked) {
+        return kind == 0 ? 0 : kind + 16 * marked.indexOf('^');
+    }
+
+    /** Reads a path; ^ stands ahead of the wrong token. */
+    static void pathFault(LakeBins lake, int kind, String marked) {
+        due("path " + marked, path(lake, marked.replace("^", "")), faultOf(kind, marked));
+    }
+
+    static void pathFault(int kind, String marked) {
+        pathFault(new LakeBins(), kind, marked);
+    }
+
+    /** Reads a day; ^ stands ahead of the wrong token. */
+    static void dayFault(LakeBins lake, int kind, String marked) {
+        due("day " + marked, day(lake, marked.replace("^", "")), faultOf(kind, marked));
+    }
+
+    /** Numbers that are not from least to most: those next to it, the ends of int, and some that a cut would bring in. */
+    static int[] outside(int least, int most) {
+        return new int[] {least - 1, least - 2, most + 1, most + 2, Integer.MIN_VALUE, Integer.MIN_VALUE + 1 + most,
+            Integer.MAX_VALUE, Integer.MAX_VALUE - 1, 256 * 256 + most, -256 * 256 + least};
+    }
+
+    /** The counts 0 to 12. */
+    static void counts(String when, LakeBins lake, int... want) {
+        for (int what = 0; what < want.length; what++) {
+            due(when + ", count " + what, lake.count(what), want[what]);
+        }
+    }
+
+    /** What lies at the yards from 0 on. */
+    static void lying(String when, LakeBins lake, int... want) {
+        for (int yard = 0; yard < want.length; yard++) {
+            due(when + ", lies at " + yard, lake.yard(yard, 0), want[yard]);
+        }
+    }
+
     /** What rests answers, or -99 for its exception. */
     static int rests(LakeBins lake, int gets, int loses, int what) {
         try {
