@@ -187,7 +187,10 @@ public final class LawEdgesTest {
         value("not 0", 1);
         value("not not 5", 1);
         value("(3 < 4) + (4 = 4) + (5 and 6) + (7 or 8) + not 0", 5);
-        value("(4 < 3) + (4 = 3) + (5 and 0) + (0 or 0) + not 9", 0);
+        value("(4 < 3) + (4 = 3) + (5 and 0) + (0 or 0) + not 9 + 5", 5);
+        value("(0 or 0) + 5", 5);
+        value("(0 and 5) + 5", 5);
+        value("5 - not 0 - (1 or 0) - (1 and 1) - (1 < 2) - (1 = 1)", 0);
     }
 
     private static void whatIsNot0IsSo() {

@@ -24,6 +24,7 @@ public final class PathEdgesTest {
         theFirstWrongTokenTheLeastKind();
         whatCantStandThere();
         withoutAFaultAllIsNew();
+        untoldBehindOtherPaths();
         withAFaultAllStays();
         Due.end();
     }
@@ -351,6 +352,10 @@ public final class PathEdgesTest {
         lake.hour();
         lake.find(1, 3);
         lake.find(3, -3);
+        lake.walk(0);
+        for (int what = 0; what < 12; what++) {
+            Due.due("in use, count " + what, lake.count(what) > 0, true);
+        }
         return lake;
     }
 
@@ -377,6 +382,32 @@ public final class PathEdgesTest {
         Due.due("the same path anew", Due.path(lake, "bin 0 holds 2; lies 1 7;"), 0);
         Due.due("in the bin", lake.yard(0, 2), 0);
         Due.due("nobody", lake.count(1), 0);
+    }
+
+    /** What a path does not tell is as if it never was, whatever the paths ahead of it told. */
+    private static void untoldBehindOtherPaths() {
+        StringBuilder all = new StringBuilder(String.join("", ONCE));
+        for (int yard = 0; yard < 8; yard++) {
+            all.append("bin ").append(yard).append(" holds 2; lies ").append(yard).append(" 3;");
+        }
+        all.append("person k child carries 4 brings 3;");
+        for (int ahead = 0; ahead < 6; ahead++) {
+            LakeBins lake = new LakeBins();
+            for (int i = 0; i < ahead; i++) {
+                Due.due("all is told", Due.path(lake, all + (i % 3 == 2 ? "?" : "")) == 0, i % 3 != 2);
+            }
+            Due.due("nothing is told", lake.path(), 0);
+            Due.counts("behind " + ahead, lake, 6, 0, 0, 0, 0, 0, 0, 0, 0, 0, 0, 0, 0);
+            Due.lying("behind " + ahead, lake, 0, 0, 0, 0, 0, 0);
+            Due.due("one person", Due.path(lake, "person a plain carries 9 brings 4; bin 5 holds 1; lies 5 1;"), 0);
+            Due.counts("one person behind " + ahead, lake, 6, 1, 1, 0, 0, 0, 0, 0, 0, 0, 0, 0, 0);
+            Due.lying("one person behind " + ahead, lake, 0, 0, 0, 0, 0, 1);
+            Due.due("takes as without", lake.person(0, 3), 4);
+            Due.due("drops as without", lake.from(0, 0), 5);
+            Due.due("home", lake.walk(0), 3);
+            lake.empty(5);
+            Due.due("pence as untold", lake.count(7), 5);
+        }
     }
 
     private static void withAFaultAllStays() {

@@ -19,6 +19,7 @@ public final class SearchEdgesTest {
         place0To4BinsThatHold1To30();
         placeAtYardsWithoutOneOrFewer();
         placeByHand();
+        theLeastOfMuch();
         orderWhatNoneToTheLast();
         orderOfEqualOnesTheFirstRow();
         orderByHand();
@@ -67,6 +68,31 @@ public final class SearchEdgesTest {
         for (int bins = 0; bins <= 4; bins++) {
             Due.due("many bins of 1, " + bins, lake.place(bins, 1, 0), bins == 0 ? 8 : 9 - bins);
         }
+    }
+
+    /** As much as a run of calls can heap up at two yards: the least of much is found as well. */
+    private static void theLeastOfMuch() {
+        LakeBins lake = Due.told("yards 2; person a plain carries 0 brings 9; drops has; lies 0 99; winds 1;");
+        for (int i = 0; i < 100; i++) {
+            lake.walk(0);
+        }
+        lake.hour();
+        for (int i = 0; i < 56; i++) {
+            lake.walk(0);
+        }
+        lake.hour();
+        for (int i = 0; i < 56; i++) {
+            lake.walk(0);
+        }
+        Due.due("much lies", lake.lies(), 999 + 998);
+        Due.due("by place", lake.place(0, 1, 0), 999 + 998);
+        Due.due("by place with bins", lake.place(4, 1, 1), 0);
+        Due.due("by order", lake.order(-1), 999 + 998);
+        Due.due("the only row", lake.order(0), 0);
+        Due.due("by rounds", lake.rounds(1, 1, 0), 500 + 999);
+        Due.due("when", lake.rounds(6, 6, 1), 0);
+        Due.due("no move", lake.move(), -1);
+        Due.due("mean", lake.mean(5), 1997000);
     }
 
     private static void placeAtYardsWithoutOneOrFewer() {
@@ -284,6 +310,9 @@ public final class SearchEdgesTest {
         lake = Due.told("yards 8; person a plain carries 9 brings 2; lies 6 5; bin 0 holds 1; bin 7 holds 1;");
         Due.due("from the last, ahead of the heap", lake.move(), 8 * 7 + 1);
         Due.due("it is not moved", lake.yard(7, 1), 1);
+        lake = Due.told("yards 2; person a plain carries 9 brings 1; lies 1 5; bin 0 holds 1;");
+        lake.walk(0);
+        Due.due("from the first to the last", lake.move(), 8 * 0 + 1);
     }
 
     private static int liesByMove(String path, boolean walked, int from, int to) {
@@ -447,6 +476,13 @@ public final class SearchEdgesTest {
         Due.due("nobody comes: what lies", lake.mean(0), 1000 * lake.lies());
         Due.due("all come", lake.mean(10), 1000 * lake.all());
         Due.due("nobody, nothing", new LakeBins().mean(5), 0);
+        StringBuilder people = new StringBuilder("yards 2;");
+        for (int count = 1; count <= 6; count++) {
+            people.append("person ").append((char) ('a' + count)).append(" plain carries 0 brings 1;");
+            for (int odds = 0; odds <= 10; odds++) {
+                Due.due(count + " people by " + odds, Due.told(people.toString()).mean(odds), 100 * odds * count);
+            }
+        }
         Due.due("nobody", Due.told("lies 0 99;").mean(10), 99000);
     }
 

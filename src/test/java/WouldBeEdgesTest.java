@@ -27,6 +27,7 @@ public final class WouldBeEdgesTest {
         weeksHours1To99();
         weeksWhat0To2();
         weeksByDraws();
+        weeksHomeAndPaidByThese();
         weeksWithoutPeople();
         weeksAllIsAsAhead();
         Due.end();
@@ -337,14 +338,21 @@ public final class WouldBeEdgesTest {
         }
     }
 
+    /** Weeks count from now on: something went home and was paid ahead of them. */
+    private static LakeBins begun(String text) {
+        LakeBins lake = Due.told(text);
+        for (int i = 0; i < 12; i++) {
+            lake.walk(0);
+        }
+        lake.hour();
+        lake.empty(0);
+        return lake;
+    }
+
     /** The same weeks done by hand, with draws of the test's own. */
     private static void weeksByHand(String text, int seed, int hours) {
-        LakeBins asked = Due.told(text);
-        asked.hour();
-        asked.empty(0);
-        LakeBins done = Due.told(text);
-        done.hour();
-        done.empty(0);
+        LakeBins asked = begun(text);
+        LakeBins done = begun(text);
         int home = done.count(5);
         int paid = done.count(7);
         int people = done.count(1);
@@ -379,6 +387,19 @@ public final class WouldBeEdgesTest {
                 weeksByHand(text.toString(), seed, 90);
             }
         }
+    }
+
+    private static void weeksHomeAndPaidByThese() {
+        LakeBins lake = Due.told("yards 2; person a plain carries 9 brings 2; bin 1 holds 1; pence 9;");
+        lake.walk(0);
+        lake.walk(0);
+        lake.empty(1);
+        lake.walk(0);
+        Due.due("home ahead", lake.count(5), 4);
+        Due.due("paid ahead", lake.count(7), 9);
+        Due.due("home in one hour", lake.weeks(1, 1, 1), 6);
+        Due.due("paid in one hour, drawn 17515", lake.weeks(1, 1, 2), 9);
+        Due.due("what lies", lake.weeks(1, 1, 0), 0);
     }
 
     private static void weeksWithoutPeople() {
