@@ -25,6 +25,7 @@ public final class LawEdgesTest {
         takes0To9();
         drops0ToWhatHeHas();
         withoutLaws();
+        aShorterLawBehindALongerOne();
         theLongestLaw();
         Due.end();
     }
@@ -381,6 +382,18 @@ public final class LawEdgesTest {
         Due.due("without takes", lake.leaves(0, 0), 4);
         lake = Due.told("yards 2; person p plain carries 9 brings 4; person d dog carries 9 brings 4; lies 0 5; drops heap = 5;");
         Due.due("a law is for all kinds", lake.leaves(1, 0), 1);
+    }
+
+    /** Nothing of a longer law is left in a shorter one that is told two paths later. */
+    private static void aShorterLawBehindALongerOne() {
+        LakeBins lake = new LakeBins();
+        String[] laws = {"not not not 0", "not not 1", "5", "6", "(1 + 2) * not 0", "not 0 + not not 4", "7", "8 - 1"};
+        int[] want = {1, 1, 5, 6, 3, 2, 7, 7};
+        for (int i = 0; i < laws.length; i++) {
+            Due.due("path " + i, Due.path(lake, WALKER + "takes " + laws[i] + "; drops " + laws[i] + ";"), 0);
+            Due.due("takes " + laws[i] + " behind longer ones", lake.person(0, 3), want[i]);
+            Due.due("drops " + laws[i] + " behind longer ones", lake.leaves(0, 0), want[i]);
+        }
     }
 
     /** A law that fills the tape: so long as the tape is, its steps are kept. */

@@ -33,6 +33,7 @@ public final class SearchEdgesTest {
         whoIfNothingIsFound();
         whoByAllThatIsFound();
         whoAsItIsWhenAsked();
+        whoAndLookAtAllYards();
         lookNoneIfNonePartsThem();
         lookOfEqualOnesTheFirst();
         lookTheLeastOfTheGreatest();
@@ -412,6 +413,27 @@ public final class SearchEdgesTest {
         LakeBins none = new LakeBins();
         none.find(5, 0);
         Due.due("nobody is told, none found", none.who(), 0);
+    }
+
+    private static void whoAndLookAtAllYards() {
+        for (int yards = 2; yards <= 8; yards++) {
+            int last = yards - 1;
+            LakeBins lake = Due.told("yards " + yards + "; person a dog carries 0 brings 1; person b dog carries 0 brings 2;"
+                + "person c plain carries 9 brings 0; lies " + last + " 1;");
+            Due.due("all of them at " + yards, lake.who(), 7);
+            Due.due("the last yard parts them", lake.look(), last);
+            lake.find(last, 2);
+            Due.due("b by the last yard", lake.who(), 2);
+            lake.find(0, 2);
+            Due.due("nobody leaves two twice", lake.who(), 0);
+            lake = Due.told("yards " + yards + "; person a plain carries 9 brings 0; person b plain carries 9 brings 0;");
+            Due.due("no yard parts them", lake.look(), -1);
+            for (int yard = 0; yard < yards; yard++) {
+                lake.find(yard, 0);
+            }
+            Due.due("found at each yard", lake.count(10), yards);
+            Due.due("both", lake.who(), 3);
+        }
     }
 
     private static void whoAsItIsWhenAsked() {
